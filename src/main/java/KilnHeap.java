@@ -276,6 +276,7 @@ public final class KilnHeap {
             return NO_SLOT;
         }
         int slot = freeSlot();
+        // Where a word is free a slot is too; looked at all the same, as slot becomes an index.
         if (slot == NO_SLOT) {
             return NO_SLOT;
         }
@@ -359,6 +360,7 @@ public final class KilnHeap {
             return;
         }
         reachable[slot] = true;
+        // Each slot comes here once at most, so there is always room.
         reached[reachedCount] = slot;
         reachedCount++;
     }

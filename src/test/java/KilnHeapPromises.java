@@ -611,6 +611,7 @@ public final class KilnHeapPromises {
         due("finalized(-1)", x.finalized(-1), 0);
         finalizedAscending();
         finalizedOnce();
+        finalizedAllAtOnce();
     }
 
     /** The places of old objects are free again here, so that memory order and serial order can differ. */
@@ -657,6 +658,18 @@ public final class KilnHeapPromises {
         x.collect();
         due("count(3): once only", x.count(3), 1);
         due("finalized(0)", x.finalized(0), 1);
+    }
+
+    private static void finalizedAllAtOnce() {
+        KilnHeap x = heap(96);
+        for (int made = 0; made < 96; made++) {
+            x.make(0, 0, 1);
+        }
+        x.clear(0);
+        due("collect() of 96 finalizable ones", x.collect(), 0);
+        due("count(3)", x.count(3), 96);
+        due("finalized(0)", x.finalized(0), 96);
+        due("finalized(15)", x.finalized(15), 81);
     }
 
     private static void constants() {
