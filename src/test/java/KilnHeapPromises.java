@@ -1,23 +1,5 @@
 /** One method for each promise of the document: ordinary inputs, the edges it names, and wrong inputs. */
-public final class KilnHeapPromises {
-    private static final int REFUSED = -1, NULL = -2, FULL = -3;
-    private static final long REFERENCE = 1000000000000L, NOTHING = -1000000000000L, BAD = -2000000000000L;
-    private static final int[] NO_REGISTERS = {-1, 8, 9, Integer.MIN_VALUE, Integer.MAX_VALUE};
-
-    private static int wrong = 0;
-    private static String part = "";
-
-    private static void due(String call, long got, long want) {
-        if (got != want) {
-            wrong++;
-            System.out.println(part + ": " + call + " answered " + got + ", due is " + want);
-        }
-    }
-
-    private static KilnHeap heap(int capacity) {
-        return new KilnHeap(capacity, 0);
-    }
-
+public final class KilnHeapPromises extends HeapTest {
     /** A heap of 16 words that register 0 fills wholly, with serials 1 .. 3. */
     private static KilnHeap fullHeap() {
         KilnHeap x = heap(16);
@@ -683,25 +665,22 @@ public final class KilnHeapPromises {
     }
 
     public static void main(String[] args) {
-        constants();
-        newObject();
-        make();
-        weak();
-        list();
-        put();
-        link();
-        load();
-        copy();
-        clear();
-        read();
-        serial();
-        shape();
-        collect();
-        count();
-        finalized();
-        System.out.println(wrong == 0 ? "all answers are as due" : wrong + " answers are not as due");
-        if (wrong != 0) {
-            System.exit(1);
-        }
+        run(KilnHeapPromises::constants);
+        run(KilnHeapPromises::newObject);
+        run(KilnHeapPromises::make);
+        run(KilnHeapPromises::weak);
+        run(KilnHeapPromises::list);
+        run(KilnHeapPromises::put);
+        run(KilnHeapPromises::link);
+        run(KilnHeapPromises::load);
+        run(KilnHeapPromises::copy);
+        run(KilnHeapPromises::clear);
+        run(KilnHeapPromises::read);
+        run(KilnHeapPromises::serial);
+        run(KilnHeapPromises::shape);
+        run(KilnHeapPromises::collect);
+        run(KilnHeapPromises::count);
+        run(KilnHeapPromises::finalized);
+        end();
     }
 }
