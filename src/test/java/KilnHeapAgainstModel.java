@@ -309,6 +309,11 @@ public final class KilnHeapAgainstModel {
         return random.nextInt(40) == 0 ? EDGES[random.nextInt(EDGES.length)] : random.nextInt(most + 1);
     }
 
+    /** The first fields more often than the last: more objects have them, so that fewer calls are refused. */
+    private static int field(Random random) {
+        return number(random, random.nextInt(3) == 0 ? 6 : 2);
+    }
+
     /** The three numbers of a call; few registers in use make for more meeting of references. */
     private static int[] numbers(Random random, int call, int registers) {
         int a = number(random, registers);
@@ -317,10 +322,10 @@ public final class KilnHeapAgainstModel {
         switch (call) {
             case 0: return new int[] {a, number(random, 6), number(random, 1)};
             case 2: return new int[] {a, number(random, random.nextInt(4) == 0 ? 20 : 3), random.nextInt()};
-            case 3: return new int[] {a, number(random, 3), random.nextInt(3) == 0 ? random.nextInt() : b};
-            case 4: return new int[] {a, number(random, 3), c};
-            case 5: return new int[] {a, b, number(random, 3)};
-            case 8: return new int[] {a, number(random, 3), 0};
+            case 3: return new int[] {a, field(random), random.nextInt(3) == 0 ? random.nextInt() : b};
+            case 4: return new int[] {a, field(random), c};
+            case 5: return new int[] {a, b, field(random)};
+            case 8: return new int[] {a, field(random), 0};
             case 12: return new int[] {number(random, 4), 0, 0};
             case 13: return new int[] {number(random, 15), 0, 0};
             default: return new int[] {a, b, c};
